@@ -246,6 +246,13 @@ public final class PromisesTest {
     fault(sums + ";law heed 1+1;", 2, sums.length() + 11);
     fault(sums + ";law heed not 1;", 2, sums.length() + 14);
     fault(sums + ";law heed 1 1;", 1, sums.length() + 12);
+    fault(sums + "+1+1;", 2, sums.length() + 1);
+    fault(sums + "+(1<2);", 2, sums.length() + 2);
+    StringBuilder nots = new StringBuilder("law heed ");
+    for (int i = 0; i < 63; i++) {
+      nots.append(i % 8 == 0 ? "(not " : "not ");
+    }
+    due("63 times not in eight parentheses", Check.of(nots + "1))))))));").count(4), 64);
     due("one closed, one opened", Check.of("law heed ((((((((1))))))))+((((((((1))))))));").count(4), 3);
   }
 
@@ -335,7 +342,9 @@ public final class PromisesTest {
     value("2<=2", 1);
     value("2<2", 0);
     value("2>=3", 0);
+    value("2>=2", 1);
     value("3>2", 1);
+    value("2>2", 0);
     value("2<>3", 1);
     value("2=2", 1);
     value("not 5", 0);
@@ -358,6 +367,7 @@ public final class PromisesTest {
     value("1000*1000*1000*1000", 1000000000000L);
     value("1000*1000*1000*1000+1", NO_LAW);
     value("1000*1000*1000*1000+1-1", NO_LAW);
+    value("999*1000*1000*1000+1000*1000*1000", 1000000000000L);
     value("0-1000*1000*1000*1000", -1000000000000L);
     value("0-1000*1000*1000*1000-1", NO_LAW);
     value("1000*1000*1000*1000*(0-1)", -1000000000000L);
