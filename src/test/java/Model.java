@@ -578,6 +578,12 @@ final class Model {
     return told.lines;
   }
 
+  int tell(String text) {
+    tape.setLength(0);
+    tape.append(text);
+    return text(text.length());
+  }
+
   int fault(int what) {
     return what == 0 ? fault : what == 1 ? place : -1;
   }
