@@ -39,6 +39,7 @@ abstract class Bounds {
     } catch (IOException e) {
       throw new IllegalStateException("no document", e);
     }
+    made.put("What it is", between(all, "## What it is", "## The public face"));
     made.put("The public face", between(all, "## The public face", "## Terms"));
     made.put("Terms 1", between(all, "## Terms", "==== 2."));
     made.put("Terms 2", between(all, "==== 2.", "==== 3."));
@@ -59,9 +60,10 @@ abstract class Bounds {
     return all.substring(begin, end);
   }
 
-  /** What is asked from here on is of these words. */
-  static void of(String section, String words) {
-    where = section + ", \"" + words + "\": ";
+  /** What is asked from here on is of these words; behind a part of the Terms stand the promises that they are for. */
+  static void of(String ofWhat, String words) {
+    String section = ofWhat.replaceAll(",.*", "");
+    where = ofWhat + ", \"" + words + "\": ";
     TOLD.add(section);
     CHECK.due(where + "the document says so there", DOCUMENT.getOrDefault(section, "").contains(words), true);
   }

@@ -24,7 +24,7 @@ final class SculleryBounds extends Bounds {
   // ---- Terms 2 ----
 
   private static void turned() {
-    of("Terms 2", "TURNED by DEPTH: its first PLATES, so many, lie the other way round, and each has its other FACE.");
+    of("Terms 2, promises 10, 13", "TURNED by DEPTH: its first PLATES, so many, lie the other way round, and each has its other FACE.");
     PlatePiles x = piles("1 2' 3 4' 5");
     x.turn(0, 1);
     row("by 1: its face alone", x, 0, "1' 2' 3 4' 5");
@@ -42,7 +42,7 @@ final class SculleryBounds extends Bounds {
   }
 
   private static void rightAndProper() {
-    of("Terms 2", "RIGHT: SIZES are each less than the next one down;");
+    of("Terms 2, promise 6", "RIGHT: SIZES are each less than the next one down;");
     PlatePiles x = piles("", "9'", "1 2'", "2 1");
     int[] right = {1, 1, 1, 0};
     PlatePiles five = piles("1 2 3 4 99", "1 2 3 99 4", "2 1 3 4 5", "1' 2' 3' 98' 99'");
@@ -52,7 +52,7 @@ final class SculleryBounds extends Bounds {
       due("five, pile " + pile, five.pile(pile, 1), rightFive[pile]);
     }
 
-    of("Terms 2", "PROPER: RIGHT, and all FACES up.");
+    of("Terms 2, promise 6", "PROPER: RIGHT, and all FACES up.");
     PlatePiles y = piles("", "9", "9'", "2 1");
     int[] proper = {1, 1, 0, 0};
     PlatePiles fives = piles("1 2 3 4 5", "1' 2 3 4 5", "1 2 3 4 5'", "2 1 3 4 5");
@@ -64,7 +64,7 @@ final class SculleryBounds extends Bounds {
   }
 
   private static void gaps() {
-    of("Terms 2", "(above it or below);");
+    of("Terms 2, promise 6", "(above it or below);");
     PlatePiles x = piles("1 2 3", "3 2 1", "2 1 3", "1 3 2");
     due("each above its next greater", x.pile(0, 3), 0);
     due("each below it: only the greatest", x.pile(1, 3), 1);
@@ -74,7 +74,7 @@ final class SculleryBounds extends Bounds {
     due("next greater of those in the pile", far.pile(0, 3), 2);
     due("next greater of those in the pile", far.pile(1, 3), 0);
 
-    of("Terms 2", "the greatest one, if it isn't the lowest of all (none of a PILE of one, of none).");
+    of("Terms 2, promise 6", "the greatest one, if it isn't the lowest of all (none of a PILE of one, of none).");
     PlatePiles y = piles("", "7", "7 8", "8 7");
     int[] gaps = {0, 0, 0, 1};
     for (int pile = 0; pile < 4; pile++) {
@@ -98,13 +98,13 @@ final class SculleryBounds extends Bounds {
   }
 
   private static void idle() {
-    of("Terms 2", "its TURNS, by their numbers:");
+    of("Terms 2, promise 13", "its TURNS, by their numbers:");
     row("by 2, by 1", gone(1, TWO + "turn m p 2 0;turn m p 1 0;"), 0, "2 1'");
     row("by 1, by 2", gone(1, TWO + "turn m p 1 0;turn m p 2 0;"), 0, "2' 1");
     row("of this minute alone", gone(1, TWO + "turn m p 1 1;turn m p 2 0;"), 0, "2' 1'");
     row("of none", gone(1, TWO), 0, "1 2");
 
-    of("Terms 2", "if E of heed is 0 (1 without, with an ERROR)");
+    of("Terms 2, promise 13", "if E of heed is 0 (1 without, with an ERROR)");
     due("0", idleBy("turn m p 1 0;law heed 0;"), 1);
     due("1", idleBy("turn m p 1 0;law heed 1;"), 0);
     due("-1", idleBy("turn m p 1 0;law heed 0-1;"), 0);
@@ -113,7 +113,7 @@ final class SculleryBounds extends Bounds {
     due("with an error", idleBy("turn m p 1 0;law heed 0/0;"), 0);
     due("1 / 2 is 0", idleBy("turn m p 1 0;law heed 1/2;"), 1);
 
-    of("Terms 2", "or the DEPTH is more than the PILE is HIGH,");
+    of("Terms 2, promise 13", "or the DEPTH is more than the PILE is HIGH,");
     due("as high", idleBy("turn m p 2 0;"), 0);
     due("one more", idleBy("turn m p 3 0;"), 1);
     due("5", idleBy("turn m p 5 0;"), 1);
@@ -129,7 +129,7 @@ final class SculleryBounds extends Bounds {
     due("so high by then", more.count(10), 1);
     row("turned then", more, 0, "2' 1' 9'");
 
-    of("Terms 2", "it is IDLE (once);");
+    of("Terms 2, promise 13", "it is IDLE (once);");
     PlatePiles once = gone(1, TWO + "turn m p 3 0;law heed 0;law effort 5;chip 100;");
     due("by both", once.count(10), 1);
     due("not turned", once.pile(0, 4), 0);
@@ -142,7 +142,7 @@ final class SculleryBounds extends Bounds {
     no.go(1);
     due("no number for it", no.chance(0, 1, 0), 10);
 
-    of("Terms 2", "Then it is the next MINUTE.");
+    of("Terms 2, promise 13", "Then it is the next MINUTE.");
     due("1", gone(1, TWO).count(5), 1);
     due("minute in a law", gone(3, TWO + "turn m p 1 2;law effort minute*100;").maid(0, 1), 200);
     due("in the text's first", gone(3, TWO + "turn m p 1 0;law effort minute*100+1;").maid(0, 1), 1);
@@ -153,7 +153,7 @@ final class SculleryBounds extends Bounds {
   }
 
   private static void tired() {
-    of("Terms 2", "the MAID is TIRED by E of effort (0 .. 999; DEPTH without, with an ERROR) more,");
+    of("Terms 2, promises 8, 13", "the MAID is TIRED by E of effort (0 .. 999; DEPTH without, with an ERROR) more,");
     due("below 0", tiredBy("turn m p 2 0;law effort 0-1;"), 0);
     due("far below 0", tiredBy("turn m p 2 0;law effort 0-9999*9999*9999;"), 0);
     due("0", tiredBy("turn m p 2 0;law effort 0;"), 0);
@@ -167,7 +167,7 @@ final class SculleryBounds extends Bounds {
     due("more and more", tiredBy("turn m p 2 0;turn m p 1 0;turn m p 2 0;"), 5);
     due("idle ones aren't", tiredBy("turn m p 3 0;law effort 9;"), 0);
 
-    of("Terms 2", "99999 at most,");
+    of("Terms 2, promises 8, 13", "99999 at most,");
     // Fourteen turns by 999 are the most that a text can tell, so no maid ever comes so far.
     due("the most that can come", tiredBy(times(14, "turn m p 1 0;") + "law effort 999;"), 13986);
   }
@@ -189,7 +189,7 @@ final class SculleryBounds extends Bounds {
   }
 
   private static void chipped() {
-    of("Terms 2", "if a number modulo 100 (no number, if E is 0 or 100) is below E of crack");
+    of("Terms 2, promise 13", "if a number modulo 100 (no number, if E is 0 or 100) is below E of crack");
     int zero = seed(0, 0, 0, 99);
     int most = seed(99, 99, 0, 99);
     int middle = seed(37, 37, 0, 99);
@@ -214,7 +214,7 @@ final class SculleryBounds extends Bounds {
     PlatePiles idle = gone(2, TWO + "turn m p 3 0;turn m p 2 1;law crack 50;seed " + drawn + ";");
     due("no number for what is idle", idle.plate(0, 0, 3), 1);
 
-    of("Terms 2", "(behind that, tired with this effort; 0 .. 100; chip without, with an ERROR),");
+    of("Terms 2, promise 13", "(behind that, tired with this effort; 0 .. 100; chip without, with an ERROR),");
     due("tired with this effort", chippedBy("law effort 7;law crack 100*(tired=7);"), 1);
     due("below 0", chippedBy("law crack 0-1;chip 100;"), 0);
     due("far below 0", chippedBy("law crack 0-9999*9999*9999;chip 100;"), 0);
@@ -225,7 +225,7 @@ final class SculleryBounds extends Bounds {
     due("no chip with an error", chippedBy("law crack 1/0;"), 0);
     due("the law, not chip", chippedBy("law crack 0;chip 100;"), 0);
 
-    of("Terms 2", "the PLATE now on top is CHIPPED (if it is already, it stays so).");
+    of("Terms 2, promise 13", "the PLATE now on top is CHIPPED (if it is already, it stays so).");
     PlatePiles top = gone(1, TWO + "turn m p 2 0;chip 100;");
     due("2, now on top", top.plate(0, 0, 3), 1);
     due("not 1", top.plate(0, 1, 3), 0);
@@ -239,7 +239,7 @@ final class SculleryBounds extends Bounds {
   }
 
   private static void namesOfLaws() {
-    of("Terms 2", "size: SIZE of the PLATE at that DEPTH (of crack of the one now on top; 0, if there is none so deep);");
+    of("Terms 2, promise 9", "size: SIZE of the PLATE at that DEPTH (of crack of the one now on top; 0, if there is none so deep);");
     PlatePiles x = Check.of("maid m 1;pile p;pile q;" + "plate p 9 0;plate p 4 0;law effort size;law crack size;law heed size;");
     int[] sizes = {9, 4, 0, 0, 0};
     for (int depth = 1; depth <= 5; depth++) {
@@ -253,7 +253,7 @@ final class SculleryBounds extends Bounds {
     due("of a turn: at its depth, ahead of turning", tiredBy("turn m p 2 0;law effort size*10;"), 20);
     due("of a turn: now on top", chippedBy("law crack (size=2)*100;"), 1);
 
-    of("Terms 2", "all as they are by then (of heed, effort ahead of turning).");
+    of("Terms 2, promises 9, 13", "all as they are by then (of heed, effort ahead of turning).");
     String base = "maid m 1;pile p;plate p 2 0;plate p 1 0;";
     due("gaps ahead of turning", gone(1, base + "turn m p 2 0;law effort gaps*10;").maid(0, 1), 10);
     due("gaps behind turning", gone(1, base + "turn m p 2 0;law crack (gaps=0)*100;").count(9), 1);
@@ -267,7 +267,7 @@ final class SculleryBounds extends Bounds {
   }
 
   private static void values() {
-    of("Terms 2", "comparisons, and, or, not are 1 or 0 (what isn't 0 is as 1, both sides are worked out),");
+    of("Terms 2, promise 9", "comparisons, and, or, not are 1 or 0 (what isn't 0 is as 1, both sides are worked out),");
     value("2<3", 1);
     value("3<3", 0);
     value("3<=3", 1);
@@ -305,7 +305,7 @@ final class SculleryBounds extends Bounds {
     value("not 1/0", NO_LAW);
     value("1/0=1/0", NO_LAW);
 
-    of("Terms 2", "/ is cut towards 0;");
+    of("Terms 2, promise 9", "/ is cut towards 0;");
     value("7/2", 3);
     value("(0-7)/2", -3);
     value("7/(0-2)", -3);
@@ -316,7 +316,7 @@ final class SculleryBounds extends Bounds {
     value("9999/9999", 1);
     value("7-7/2*2", 1);
 
-    of("Terms 2", "ERROR: / by 0,");
+    of("Terms 2, promise 9", "ERROR: / by 0,");
     value("1/0", NO_LAW);
     value("0/0", NO_LAW);
     value("1/(size-4)", NO_LAW);
@@ -324,12 +324,12 @@ final class SculleryBounds extends Bounds {
     value("1/(1/2)", NO_LAW);
     value("1/(2<1)", NO_LAW);
 
-    of("Terms 2", "VALUES are longs;");
+    of("Terms 2, promise 9", "VALUES are longs;");
     value("8192*8192*64", 4294967296L);
     value("8192*8192*32", 2147483648L);
     value("0-8192*8192*32-1", -2147483649L);
 
-    of("Terms 2", "a value above 10 to the 12 or below 0 by more than that.");
+    of("Terms 2, promise 9", "a value above 10 to the 12 or below 0 by more than that.");
     String most = "1000*1000*1000*1000";
     value(most, 1000000000000L);
     value(most + "+0", 1000000000000L);
@@ -363,7 +363,7 @@ final class SculleryBounds extends Bounds {
   }
 
   private static void numbers() {
-    of("Terms 2", "Numbers are the last one (at first the seed) times 1103515245 and 12345, without what is above 31 bits, by 65536.");
+    of("Terms 2, promises 13, 32", "Numbers are the last one (at first the seed) times 1103515245 and 12345, without what is above 31 bits, by 65536.");
     for (int seed : new int[] {0, 1, 3, 99998, 99999}) {
       StringBuilder text = new StringBuilder("maid m 1;");
       for (char c = 'a'; c <= 'd'; c++) {
@@ -402,7 +402,7 @@ final class SculleryBounds extends Bounds {
   }
 
   private static void asItGoes() {
-    of("Terms 2", "AS IT GOES: without numbers: a PLATE is CHIPPED, if E of crack is 50 at least.");
+    of("Terms 2, promise 14", "AS IT GOES: without numbers: a PLATE is CHIPPED, if E of crack is 50 at least.");
     String text = TWO + "turn m p 2 0;";
     due("49", Check.of(text + "law crack 49;").ahead(1, 3, 0), 0);
     due("50", Check.of(text + "law crack 50;").ahead(1, 3, 0), 1);
@@ -765,7 +765,7 @@ final class SculleryBounds extends Bounds {
   }
 
   private static void rightWhen() {
-    of("Terms 3", "RIGHT WHEN of a PILE: in how many MINUTES as it goes, 199 at most, it is RIGHT (0: it is).");
+    of("Terms 3, promise 15", "RIGHT WHEN of a PILE: in how many MINUTES as it goes, 199 at most, it is RIGHT (0: it is).");
     due("it is, none", piles("").rightWhen(0), 0);
     due("it is, one down", piles("1'").rightWhen(0), 0);
     due("it is, though it won't be", Check.of(TWO + "turn m p 2 0;").rightWhen(0), 0);

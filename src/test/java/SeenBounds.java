@@ -23,7 +23,7 @@ final class SeenBounds extends Bounds {
   // ---- Terms 3 ----
 
   private static void behindMinutes() {
-    of("Terms 3", "SEEN, at most 24, numbered from 0 on: behind so many MINUTES 1 .. 60 (as it goes from the TEXT on, nothing done by call)");
+    of("Terms 3, promises 27, 30", "SEEN, at most 24, numbered from 0 on: behind so many MINUTES 1 .. 60 (as it goes from the TEXT on, nothing done by call)");
     String pile = "maid m 1;" + pile("p", "1 2 3");
     PlatePiles early = Check.of(pile + "turn m p 1 0;turn m p 1 1;");
     early.see(1, 0, 2, true);
@@ -46,7 +46,7 @@ final class SeenBounds extends Bounds {
   }
 
   private static void size() {
-    of("Terms 3", "the PLATE on top of a PILE was so big in SIZE 1 .. 99, or wasn't (of none it wasn't).");
+    of("Terms 3, promises 27, 30", "the PLATE on top of a PILE was so big in SIZE 1 .. 99, or wasn't (of none it wasn't).");
     PlatePiles x = Check.of(THREE);
     x.see(1, 0, 3, true);
     due("was 3", x.deep(0), 4);
@@ -68,7 +68,7 @@ final class SeenBounds extends Bounds {
   }
 
   private static void nothingByCall() {
-    of("Terms 3", "(as it goes from the TEXT on, nothing done by call)");
+    of("Terms 3, promises 27, 30, 31", "(as it goes from the TEXT on, nothing done by call)");
     PlatePiles x = Check.of(THREE + "law crack 50;");
     x.turn(0, 3);
     x.crack(0, 1);
@@ -96,7 +96,7 @@ final class SeenBounds extends Bounds {
   }
 
   private static void strikes() {
-    of("Terms 3", "KNOWN by n (all at first): the first n that aren't STRUCK by one of these (a STRIKE may be STRUCK: then it doesn't count; "
+    of("Terms 3, promises 28, 29", "KNOWN by n (all at first): the first n that aren't STRUCK by one of these (a STRIKE may be STRUCK: then it doesn't count; "
         + "asked from the last one on).");
     for (int strikes = 0; strikes <= 23; strikes++) {
       PlatePiles x = withSeen(strikes);
@@ -129,7 +129,7 @@ final class SeenBounds extends Bounds {
   }
 
   private static void deeds() {
-    of("Terms 3", "DEEP of a TURN told: 1 .. 5 (bits 0 .. 4) in place of its DEPTH (more than HIGH is IDLE), by which all KNOWN ones are so.");
+    of("Terms 3, promise 30", "DEEP of a TURN told: 1 .. 5 (bits 0 .. 4) in place of its DEPTH (more than HIGH is IDLE), by which all KNOWN ones are so.");
     PlatePiles five = Check.of(FIVE);
     due("nothing known", five.deep(0), 31);
     for (int size = 1; size <= 5; size++) {
@@ -268,7 +268,7 @@ final class SeenBounds extends Bounds {
   }
 
   private static void asking() {
-    of("Terms 3", "as few of DEEP as may be are left at worst, the first of several.");
+    of("Terms 3, promise 31", "as few of DEEP as may be are left at worst, the first of several.");
     PlatePiles five = Check.of(FIVE + "turn m p 5 1;");
     due("all apart on top", five.ask(0, 1, 0), 0);
     due("one left", five.ask(0, 1, 1), 1);
@@ -283,7 +283,7 @@ final class SeenBounds extends Bounds {
     due("not yet turned: the first of all", later.ask(0, 1, 0), 0);
     due("not yet turned: all left", later.ask(0, 1, 1), 5);
 
-    of("Terms 3", "(that there is none is an answer, too),");
+    of("Terms 3, promise 31", "(that there is none is an answer, too),");
     PlatePiles none = Check.of("maid m 1;pile p;turn m p 1 0;");
     due("none: the first", none.ask(0, 1, 0), 0);
     due("none: all left", none.ask(0, 1, 1), 5);
@@ -391,13 +391,13 @@ final class SeenBounds extends Bounds {
   }
 
   private static void tried() {
-    of("Terms 3", "0 nothing is IDLE by E of heed,");
+    of("Terms 3, promise 33", "0 nothing is IDLE by E of heed,");
     due("heed of 0", tried("turn m p 2 0;law heed 0;", 0), 1);
     due("else it is", Check.of(TWO + "turn m p 2 0;law heed 0;").ahead(1, 5, 0), 0);
     due("by its depth it is", tried("turn m p 3 0;law heed 0;", 0), 0);
     due("without, too", tried("turn m p 2 0;", 0), 1);
 
-    of("Terms 3", "1 each TURN told is by 1 more (6, too: IDLE),");
+    of("Terms 3, promise 33", "1 each TURN told is by 1 more (6, too: IDLE),");
     due("1: by 2", tried("turn m p 1 0;", 1), 1);
     due("2 of two: idle", tried("turn m p 2 0;", 1), 0);
     due("5 of five: 6, idle", Check.of("maid m 1;" + pile("p", "1 2 3 4 5") + "turn m p 5 0;").tried(1, 0, 1), 0);
@@ -405,20 +405,20 @@ final class SeenBounds extends Bounds {
     due("heeded by that depth", tried("turn m p 1 0;law heed depth=2;", 1), 1);
     due("not heeded by that depth", tried("turn m p 1 0;law heed depth=1;", 1), 0);
 
-    of("Terms 3", "2 MAID i does nothing (not IDLE),");
+    of("Terms 3, promise 33", "2 MAID i does nothing (not IDLE),");
     PlatePiles x = Check.of(TWO + "turn m p 2 0;turn n p 2 1;turn m p 2 2;");
     due("without m", x.tried(2, 0, 3), 1);
     due("without n", x.tried(2, 1, 3), 0);
     due("of the third turn, m not tired", Check.of(TWO + "turn m p 2 0;law heed tired=0;").tried(2, 0, 1), 0);
 
-    of("Terms 3", "3 each TURN told is done twice, one time behind the other, with all that comes of it,");
+    of("Terms 3, promise 33", "3 each TURN told is done twice, one time behind the other, with all that comes of it,");
     due("there and back", tried("turn m p 2 0;", 3), 0);
     due("the second time isn't heeded", tried("turn m p 2 0;law heed tired=0;", 3), 1);
     due("the second time is heeded by its gaps", tried("turn m p 2 0;law heed gaps=0;", 3), 1);
     due("one time behind the other", tried("turn m p 2 0;turn n p 2 0;law heed minute=0 and tired=0;", 3), 0);
     due("each by its own maid, tired by both", tried("turn m p 2 0;turn m p 2 0;law heed tired<6;law effort 2;", 3), 1);
 
-    of("Terms 3", "4 each is by all that is there (IDLE, if nothing is).");
+    of("Terms 3, promise 33", "4 each is by all that is there (IDLE, if nothing is).");
     due("1: by 2", tried("turn m p 1 0;", 4), 1);
     due("5: by 2", tried("turn m p 5 0;", 4), 1);
     due("nothing is", Check.of("maid m 1;pile p;turn m p 1 0;").tried(4, 0, 1), 0);
@@ -427,7 +427,7 @@ final class SeenBounds extends Bounds {
     due("one by one", Check.of("maid m 1;" + pile("p", "1") + "turn m p 5 0;").tried(4, 0, 1), 0);
     due("five by five", Check.of("maid m 1;" + pile("p", "1 2 3 4 5") + "turn m p 1 0;").tried(4, 0, 1), 1);
 
-    of("Terms 3", "TRIED for n MINUTES as it goes: GAPS of all PILES in sum then:");
+    of("Terms 3, promise 33", "TRIED for n MINUTES as it goes: GAPS of all PILES in sum then:");
     PlatePiles sum = Check.of("maid m 1;" + pile("p", "3 1 5 2 4") + pile("q", "2 1") + pile("r", "") + pile("s", "7"));
     for (int what = 0; what <= 4; what++) {
       due("6, what " + what, sum.tried(what, 0, 0), 6);

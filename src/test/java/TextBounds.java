@@ -50,7 +50,7 @@ final class TextBounds extends Bounds {
   }
 
   private static void lines() {
-    of("Terms 1", "A TEXT: { LINE ';' }.");
+    of("Terms 1, promises 3, 4", "A TEXT: { LINE ';' }.");
     fine("", 0);
     fine("pile p;", 1);
     fine("pile p;pile q;", 2);
@@ -73,7 +73,7 @@ final class TextBounds extends Bounds {
     fault(full + "seed 1;", 3, full.length());
     fault(full + "law effort 1;", 3, full.length() + 4);
 
-    of("Terms 1", "LINE: maid W N | pile W | plate W N N | turn W W N N | chip N | seed N | law LAW E.");
+    of("Terms 1, promises 3, 4", "LINE: maid W N | pile W | plate W N N | turn W W N N | chip N | seed N | law LAW E.");
     String[] heads = {"maid m 1", "pile p", "plate p 1 0", "turn m p 1 1", "chip 1", "seed 1", "law heed 1"};
     String before = "maid n 1;pile q;";
     String ahead = "maid m 1;pile p;";
@@ -89,7 +89,7 @@ final class TextBounds extends Bounds {
       fault(other, 1, 0);
     }
 
-    of("Terms 1", "LAW: effort | crack | heed.");
+    of("Terms 1, promises 3, 4", "LAW: effort | crack | heed.");
     fine("law effort 1;law crack 1;law heed 1;", 3);
     for (String other : new String[] {"maid", "law", "seed", "or", "size", "x", "1", ";"}) {
       fault("law " + other + " 1;", 1, 4);
@@ -97,7 +97,7 @@ final class TextBounds extends Bounds {
   }
 
   private static void words() {
-    of("Terms 1", "Words: small letters in a row;");
+    of("Terms 1, promises 3, 4", "Words: small letters in a row;");
     fine("pile a;pile z;", 2);
     for (char sign : new char[] {'`', '{', '@', 'A', 'Z', '[', '_', '~', '!', '#', '.', ':', ',', '&', '|', 0, 127, 128, 225, 255}) {
       fault("pile " + sign + ";", 1, 5);
@@ -108,7 +108,7 @@ final class TextBounds extends Bounds {
     fault("pile a1;", 1, 6);
     fault("pile a b;", 1, 7);
 
-    of("Terms 1", "W: one of 1 .. 6 letters,");
+    of("Terms 1, promises 3, 4", "W: one of 1 .. 6 letters,");
     fault("pile ;", 1, 5);
     fine("pile p;", 1);
     fine("pile abcdef;", 1);
@@ -120,7 +120,7 @@ final class TextBounds extends Bounds {
     fault("maid m 1;pile p;turn mmmmmmm p 1 1;", 1, 21);
     fault("maid m 1;pile p;turn m ppppppp 1 1;", 1, 23);
 
-    of("Terms 1", "none of those of the language;");
+    of("Terms 1, promises 3, 4", "none of those of the language;");
     String[] language = {"maid", "pile", "plate", "turn", "chip", "seed", "law", "effort", "crack", "heed", "or", "and", "not",
         "size", "depth", "high", "skill", "tired", "gaps", "minute"};
     for (String word : language) {
@@ -135,7 +135,7 @@ final class TextBounds extends Bounds {
       }
     }
 
-    of("Terms 1", "N: digits.");
+    of("Terms 1, promises 3, 4", "N: digits.");
     fine("maid m 0;maid n 9;", 2);
     fine("chip 00000000000000000000000000000000100;", 1);
     due("zeros ahead", Check.of("maid m 00000000000000000000007;").maid(0, 0), 7);
@@ -147,7 +147,7 @@ final class TextBounds extends Bounds {
     fault("chip -1;", 1, 5);
     fault("chip 1 1;", 1, 7);
 
-    of("Terms 1", "Blanks 10, 32.");
+    of("Terms 1, promises 3, 4", "Blanks 10, 32.");
     fine(" \n pile\n\np \n ; \n", 1);
     fine(" ", 0);
     fine("\n", 0);
@@ -161,7 +161,7 @@ final class TextBounds extends Bounds {
   }
 
   private static void formulas() {
-    of("Terms 1", "B: not B | C.");
+    of("Terms 1, promises 3, 4, 9", "B: not B | C.");
     value("not not not 0", 1);
     fault("law heed not;", 1, 12);
     fault("law heed 1+not 1;", 1, 11);
@@ -174,7 +174,7 @@ final class TextBounds extends Bounds {
     value("not 0 and 0", 0);
     value("not 1 or 1", 1);
 
-    of("Terms 1", "E: A { or A }. A: B { and B }.");
+    of("Terms 1, promises 3, 4, 9", "E: A { or A }. A: B { and B }.");
     value("1 or 0 and 0", 1);
     value("0 and 0 or 1", 1);
     value("(1 or 0) and 0", 0);
@@ -184,9 +184,11 @@ final class TextBounds extends Bounds {
     fault("law heed 1 or;", 1, 13);
     fault("law heed 1 and;", 1, 14);
 
-    of("Terms 1", "S: T { ( + | - ) T }. T: P { ( * | / ) P }. P: N | NAME | '(' E ')';");
-    value("1+1=2", 1);
-    value("2=1+1", 1);
+    of("Terms 1, promises 3, 4, 9", "S: T { ( + | - ) T }. T: P { ( * | / ) P }. P: N | NAME | '(' E ')';");
+    value("2+1=3", 1);
+    value("3=2+1", 1);
+    value("2*3>5", 1);
+    value("5<2*3", 1);
     value("7-2-1", 4);
     value("7-(2-1)", 6);
     value("2+3*4", 14);
@@ -199,7 +201,7 @@ final class TextBounds extends Bounds {
     fault("law heed +1;", 1, 9);
     fault("law heed ();", 1, 10);
 
-    of("Terms 1", "C: S [ ( < | <= | = | <> | >= | > ) S ].");
+    of("Terms 1, promises 3, 4, 9", "C: S [ ( < | <= | = | <> | >= | > ) S ].");
     value("3", 3);
     value("3>2", 1);
     value("(3>2)>0", 1);
@@ -212,7 +214,7 @@ final class TextBounds extends Bounds {
       fault("law heed 3" + sign, 1, 10 + sign.length());
     }
 
-    of("Terms 1", "N of E 0 .. 9999.");
+    of("Terms 1, promises 3, 4, 9", "N of E 0 .. 9999.");
     value("0", 0);
     value("9999", 9999);
     value("0000009999", 9999);
@@ -223,7 +225,7 @@ final class TextBounds extends Bounds {
     }
     fault("law heed -1;", 1, 9);
 
-    of("Terms 1", "(or > behind <) right behind < or > belongs to it.");
+    of("Terms 1, promises 3, 4, 9", "(or > behind <) right behind < or > belongs to it.");
     value("1<=1", 1);
     value("1>=1", 1);
     value("1<>1", 0);
@@ -254,27 +256,27 @@ final class TextBounds extends Bounds {
   }
 
   private static void whatIsTold() {
-    of("Terms 1", "MAIDS, at most 4:");
+    of("Terms 1, promises 3, 8, 37", "MAIDS, at most 4:");
     due("none", Check.of("").count(0), 0);
     String maids = "maid a 0;maid b 1;maid c 2;maid d 9;";
     due("four", Check.of(maids).count(0), 4);
     due("the fourth", Check.of(maids).maid(3, 0), 9);
     fault(maids + "maid e 1;", 2, 36);
 
-    of("Terms 1", "SKILL 0 .. 9.");
+    of("Terms 1, promises 3, 8", "SKILL 0 .. 9.");
     due("0", Check.of("maid m 0;").maid(0, 0), 0);
     due("9", Check.of("maid m 9;").maid(0, 0), 9);
     fault("maid m 10;", 2, 7);
     fault("maid m 4294967296;", 2, 7);
     fault("maid m 18446744073709551616;", 2, 7);
 
-    of("Terms 1", "PILES, at most 4.");
+    of("Terms 1, promises 3, 6, 37", "PILES, at most 4.");
     due("none", Check.of("").count(1), 0);
     due("four", Check.of("pile a;pile b;pile c;pile d;").count(1), 4);
     due("the fourth", Check.of("pile a;pile b;pile c;pile d;plate d 1 0;").pile(3, 0), 1);
     fault("pile a;pile b;pile c;pile d;pile e;", 2, 28);
 
-    of("Terms 1", "TURNS, at most 14:");
+    of("Terms 1, promises 3, 30, 37", "TURNS, at most 14:");
     String turns = "maid m 1;pile p;" + times(14, "turn m p 1 0;");
     due("none", Check.of("maid m 1;pile p;").count(3), 0);
     due("fourteen", Check.of(turns).count(3), 14);
@@ -282,7 +284,7 @@ final class TextBounds extends Bounds {
     due("there is no fifteenth", Check.of(turns).deep(14), -1);
     fault(turns + "turn m p 1 0;", 2, turns.length());
 
-    of("Terms 1", "DEPTH 1 .. 5,");
+    of("Terms 1, promises 3, 4", "DEPTH 1 .. 5,");
     String two = "maid m 1;pile p;";
     fault(two + "turn m p 0 0;", 2, 25);
     fine(two + "turn m p 1 0;", 3);
@@ -290,7 +292,7 @@ final class TextBounds extends Bounds {
     fault(two + "turn m p 6 0;", 2, 25);
     fault(two + "turn m p 4294967297 0;", 2, 25);
 
-    of("Terms 1", "a MINUTE 0 .. 99.");
+    of("Terms 1, promises 3, 13", "a MINUTE 0 .. 99.");
     PlatePiles first = Check.of("maid m 1;pile p;plate p 1 0;turn m p 1 0;turn m p 1 99;");
     first.go(1);
     due("in minute 0", first.pile(0, 4), 1);
@@ -303,7 +305,7 @@ final class TextBounds extends Bounds {
     first.go(200);
     due("never again", first.pile(0, 4), 2);
 
-    of("Terms 1", "MAIDS, PILES have names of their kind.");
+    of("Terms 1, promises 3, 4", "MAIDS, PILES have names of their kind.");
     fine("maid p 1;pile p;", 2);
     fault("maid p 1;plate p 1 0;", 4, 15);
     fault("pile m;pile p;turn m p 1 0;", 4, 19);
@@ -311,7 +313,7 @@ final class TextBounds extends Bounds {
   }
 
   private static void plates() {
-    of("Terms 1", "in a PILE below those told ahead, 5 at most in each:");
+    of("Terms 1, promises 3, 6, 7", "in a PILE below those told ahead, 5 at most in each:");
     PlatePiles x = Check.of("pile p;pile q;plate p 7 0;plate q 1 0;plate p 3 0;plate p 9 0;plate p 1 0;plate p 2 0;");
     row("five, the first told on top", x, 0, "7 3 9 1 2");
     row("one", x, 1, "1");
@@ -320,20 +322,20 @@ final class TextBounds extends Bounds {
     fault(five + "plate p 6 0;", 2, 73);
     fine(five + "pile q;plate q 6 0;", 8);
 
-    of("Terms 1", "SIZE 1 .. 99");
+    of("Terms 1, promises 3, 7", "SIZE 1 .. 99");
     fault("pile p;plate p 0 0;", 2, 15);
     due("1", Check.of("pile p;plate p 1 0;").plate(0, 0, 1), 1);
     due("99", Check.of("pile p;plate p 99 0;").plate(0, 0, 1), 99);
     fault("pile p;plate p 100 0;", 2, 15);
     fault("pile p;plate p 4294967297 0;", 2, 15);
 
-    of("Terms 1", "(no two alike in one PILE),");
+    of("Terms 1, promises 3, 4", "(no two alike in one PILE),");
     fault("pile p;plate p 5 0;plate p 5 0;", 3, 27);
     fault("pile p;plate p 5 0;plate p 05 1;", 3, 27);
     fault("pile p;plate p 1 0;plate p 2 0;plate p 3 0;plate p 4 0;plate p 1 0;", 3, 63);
     fine("pile p;pile q;plate p 5 0;plate q 5 0;", 4);
 
-    of("Terms 1", "FACE 0 (up), 1 (down).");
+    of("Terms 1, promises 3, 7", "FACE 0 (up), 1 (down).");
     PlatePiles faces = Check.of("pile p;plate p 1 0;plate p 2 1;");
     due("up", faces.plate(0, 0, 2), 0);
     due("down", faces.plate(0, 1, 2), 1);
@@ -341,7 +343,7 @@ final class TextBounds extends Bounds {
     fault("pile p;plate p 1 2;", 2, 17);
     fault("pile p;plate p 1 4294967296;", 2, 17);
 
-    of("Terms 1", "All numbered as they come (PLATES of all PILES together);");
+    of("Terms 1, promises 7, 8", "All numbered as they come (PLATES of all PILES together);");
     PlatePiles mixed = Check.of("pile p;maid m 3;pile q;plate q 9 0;plate p 8 0;maid n 4;plate q 7 0;");
     due("q's first", mixed.plate(1, 0, 0), 0);
     due("p's first", mixed.plate(0, 0, 0), 1);
@@ -358,7 +360,7 @@ final class TextBounds extends Bounds {
   }
 
   private static void numbers() {
-    of("Terms 1", "chip: of a hundred 0 .. 100 (0).");
+    of("Terms 1, promises 3, 13, 26", "chip: of a hundred 0 .. 100 (0).");
     due("0 never", chippedFirst("chip 0;"), 0);
     due("without, never", chippedFirst(""), 0);
     due("100 always", chippedFirst("chip 100;seed 99999;"), 1);
@@ -367,7 +369,7 @@ final class TextBounds extends Bounds {
     due("without: 1", Check.of("").holds(6, 0), 1);
     due("without: by 1", Check.of("").holds(6, 1), 1);
 
-    of("Terms 1", "seed: 0 .. 99999 (0).");
+    of("Terms 1, promises 3, 13", "seed: 0 .. 99999 (0).");
     due("0's first number is 0", chippedFirst("seed 0;chip 1;"), 1);
     due("without as 0", chippedFirst("chip 1;"), 1);
     int most = (int) (number(99999, 1) % 100);
@@ -380,7 +382,7 @@ final class TextBounds extends Bounds {
   // ---- Terms 1: the faults ----
 
   private static void firstFault() {
-    of("Terms 1", "FAULTS, the first along the text (of one place the least), with its place:");
+    of("Terms 1, promises 3, 4", "FAULTS, the first along the text (of one place the least), with its place:");
     fault("pile p;pile p;;", 3, 12);
     fault("plate p 100 7;", 4, 6);
     fault("pile p;plate p 100 2;", 2, 15);
@@ -401,7 +403,7 @@ final class TextBounds extends Bounds {
   }
 
   private static void canNotStand() {
-    of("Terms 1", "1 a TOKEN that is none (a word of more than 6 letters that isn't of the language, too) or can't stand there");
+    of("Terms 1, promises 3, 4", "1 a TOKEN that is none (a word of more than 6 letters that isn't of the language, too) or can't stand there");
     fault("sevenxx", 1, 0);
     fault("pilepile p;", 1, 0);
     fault("maid m sevenxx;", 1, 7);
@@ -423,7 +425,7 @@ final class TextBounds extends Bounds {
     fault("law heed 1+*1;", 1, 11);
     fault("law heed ;", 1, 9);
 
-    of("Terms 1", "(the length, if more must come).");
+    of("Terms 1, promises 3, 4", "(the length, if more must come).");
     String text = "maid m 1;pile p;plate p 1 0;turn m p 1 0;";
     int[] ends = {0, 9, 16, 28, 41};
     String cut = "law heed (not 1 or size<=2)*3;";
@@ -466,20 +468,20 @@ final class TextBounds extends Bounds {
   }
 
   private static void tooMuch() {
-    of("Terms 1", "a fifth maid and so on (at the word of the LINE),");
+    of("Terms 1, promises 3, 4", "a fifth maid and so on (at the word of the LINE),");
     fault("maid a 1;maid b 1;maid c 1;maid d 1; maid", 2, 37);
     fault("pile a;pile b;pile c;pile d;pile;", 2, 28);
     String turns = "maid m 1;pile p;" + times(14, "turn m p 5 99;");
     fault(turns + "turn x y 9 999;", 2, turns.length());
     fault(turns + "\n turn", 2, turns.length() + 2);
 
-    of("Terms 1", "a sixth PLATE of one PILE (at its W),");
+    of("Terms 1, promises 3, 4", "a sixth PLATE of one PILE (at its W),");
     String five = "pile p;plate p 1 0;plate p 2 0;plate p 3 0;plate p 4 0;plate p 5 0;";
     fault(five + "plate p 1 0;", 2, 73);
     fault(five + "plate p", 2, 73);
     fault(five + "plate  p 100;", 2, 74);
 
-    of("Terms 1", "a ninth '(' open,");
+    of("Terms 1, promises 3, 4", "a ninth '(' open,");
     value(times(8, "(") + "7" + times(8, ")"), 7);
     fault("law heed " + times(9, "(") + "7" + times(9, ")") + ";", 2, 17);
     fault("law heed " + times(9, "("), 2, 17);
@@ -488,7 +490,7 @@ final class TextBounds extends Bounds {
     value(times(7, "(") + "(1)+(2)" + times(7, ")"), 3);
     fine("law heed " + times(8, "(") + "1" + times(8, ")") + ";law crack " + times(8, "(") + "1" + times(8, ")") + ";", 2);
 
-    of("Terms 1", "a 65th KNOT of all E (N, NAMES, signs, not, and, or: one each).");
+    of("Terms 1, promises 3, 4", "a 65th KNOT of all E (N, NAMES, signs, not, and, or: one each).");
     due("none", Check.of("pile p;").count(4), 0);
     due("one", Check.of("law heed 1;").count(4), 1);
     due("64 in two", Check.of(SUMS + "law heed 1;").count(4), 64);
@@ -521,25 +523,25 @@ final class TextBounds extends Bounds {
   }
 
   private static void toldAlready() {
-    of("Terms 1", "3 told already: a name of its kind (at W),");
+    of("Terms 1, promises 3, 4", "3 told already: a name of its kind (at W),");
     fault("maid m 1;maid m 1;", 3, 14);
     fault("maid m 1;maid m", 3, 14);
     fault("pile p;pile  p;", 3, 13);
     fault("maid a 1;maid b 1;maid c 1;maid a 1;", 3, 32);
     fine("maid abcdef 1;maid abcde 1;maid abcdeg 1;maid bcdef 1;", 4);
 
-    of("Terms 1", "a SIZE of the same PILE (at the SIZE),");
+    of("Terms 1, promises 3, 4", "a SIZE of the same PILE (at the SIZE),");
     fault("pile p;plate p 5 0;plate p 5 7;", 3, 27);
     fault("pile p;plate p 5 0;plate p 5", 3, 27);
     fine("pile p;pile q;plate p 5 0;plate q 5 0;plate q 6 0;plate p 6 0;", 6);
 
-    of("Terms 1", "chip, seed (at the word),");
+    of("Terms 1, promises 3, 4", "chip, seed (at the word),");
     fault("chip 0;chip 0;", 3, 7);
     fault("seed 0;seed 0;", 3, 7);
     fault("chip 0;seed 0; chip", 3, 15);
     fine("chip 0;seed 0;", 2);
 
-    of("Terms 1", "a law of its LAW (at LAW).");
+    of("Terms 1, promises 3, 4", "a law of its LAW (at LAW).");
     fault("law heed 1;law heed 1;", 3, 15);
     fault("law effort 1;law effort", 3, 17);
     fault("law crack 1;law  crack x;", 3, 17);
@@ -547,7 +549,7 @@ final class TextBounds extends Bounds {
   }
 
   private static void notToldAhead() {
-    of("Terms 1", "4 a MAID, a PILE that isn't told ahead (at W).");
+    of("Terms 1, promises 3, 4", "4 a MAID, a PILE that isn't told ahead (at W).");
     fault("plate p 1 0;pile p;", 4, 6);
     fault("plate p", 4, 6);
     fault("pile p;plate q 1 0;", 4, 13);
@@ -692,11 +694,11 @@ final class TextBounds extends Bounds {
     PlatePiles seeds = Check.of("seed 99999;chip 50;");
     Check.tell(seeds, "seed 99999;chip 50;");
     String coins = "maid m 1;" + pile("p", "1") + pile("q", "1") + pile("r", "1") + pile("s", "1") + "turn m p 1 0;turn m q 1 0;turn m r 1 0;"
-        + "turn m s 1 0;law crack 50;";
+        + "turn m s 1 0;law crack 10;";
     Check.tell(seeds, coins);
     seeds.go(1);
     for (int i = 0; i < 4; i++) {
-      due("numbers from 0 on, not from a seed told before, " + i, seeds.plate(i, 0, 3), number(0, i + 1) % 100 < 50 ? 1 : 0);
+      due("numbers from 0 on, not from a seed told before, " + i, seeds.plate(i, 0, 3), number(0, i + 1) % 100 < 10 ? 1 : 0);
     }
 
     of("Promise 3", "how many LINES;");
@@ -781,6 +783,13 @@ final class TextBounds extends Bounds {
         due("answer to " + good + " behind it", Check.tell(x, good) > 0, true);
         due("no fault of " + good, x.fault(0), 0);
       }
+      due("a part of an E in " + bad, Check.tell(x, "law heed not 1 or not (not"), -1);
+      due("an E behind it", Check.tell(x, "maid m 1;pile p;law heed 5;"), 3);
+      due("its value", x.law(2, 0, 0, 1), 5);
+      due("its knots", x.count(4), 1);
+      due("another part", Check.tell(x, "law heed not x"), -1);
+      due("an E behind it", Check.tell(x, "maid m 1;pile p;law heed 6;"), 3);
+      due("its value", x.law(2, 0, 0, 1), 6);
     }
 
     of("Promise 4", "NONE for another what.");

@@ -25,7 +25,7 @@ final class TurningBounds extends Bounds {
   // ---- Terms 3 ----
 
   private static void ahead() {
-    of("Terms 3", "AHEAD for n MINUTES as it goes: how many PILES are RIGHT, PROPER then, TIRED of a MAID then, "
+    of("Terms 3, promise 14", "AHEAD for n MINUTES as it goes: how many PILES are RIGHT, PROPER then, TIRED of a MAID then, "
         + "how many PLATES are CHIPPED then, IDLE more, GAPS of a PILE then.");
     PlatePiles x = Check.of("maid m 1;" + pile("p", "2 1'") + "turn m p 3 0;turn m p 2 1;turn m p 1 2;turn m p 4 3;law effort 400;chip 50;");
     int[][] due = {{0, 0, 0, 0, 0, 1}, {0, 0, 0, 0, 1, 1}, {1, 0, 400, 1, 1, 0}, {1, 0, 800, 1, 1, 0}, {1, 0, 800, 1, 2, 0}};
@@ -44,7 +44,7 @@ final class TurningBounds extends Bounds {
   }
 
   private static void anyDepth() {
-    of("Terms 3", "All that follows goes by TURNED alone, any DEPTH 1 .. HIGH each time, whatever laws (a PILE of none can't be TURNED).");
+    of("Terms 3, promises 16 to 24", "All that follows goes by TURNED alone, any DEPTH 1 .. HIGH each time, whatever laws (a PILE of none can't be TURNED).");
     PlatePiles x = Check.of("maid m 9;" + pile("p", "2 1") + pile("q", "") + "law heed 0;law effort 999;chip 100;turn m p 2 0;");
     due("whatever heed", x.fewest(0, 0), 1);
     due("by all", x.first(0, 0), 2);
@@ -84,7 +84,7 @@ final class TurningBounds extends Bounds {
   }
 
   private static void fewest() {
-    of("Terms 3", "FEWEST of a PILE: how few times it must be TURNED to be RIGHT (0) or PROPER (1);");
+    of("Terms 3, promise 16", "FEWEST of a PILE: how few times it must be TURNED to be RIGHT (0) or PROPER (1);");
     PlatePiles x = piles("", "1'", "2 1", "1' 2'");
     int[] right = {0, 0, 1, 0};
     int[] proper = {0, 1, 3, 4};
@@ -119,7 +119,7 @@ final class TurningBounds extends Bounds {
     due("five right, one down", piles("1 2 3 4 5'").first(0, 0), -2);
     noSuchWhich("first", PlatePiles::first);
 
-    of("Terms 3", "FIRST: the least DEPTH by which it can begin;");
+    of("Terms 3, promise 17", "FIRST: the least DEPTH by which it can begin;");
     // Of 1' 2' both 1 2 1 2 and 2 1 2 1 do it; of 1 3 2 both 2 3 2 and 3 2 3.
     due("1 rather than 2", piles("1' 2'").first(0, 1), 1);
     due("2 rather than 3", piles("1 3 2").first(0, 0), 2);
@@ -129,7 +129,7 @@ final class TurningBounds extends Bounds {
   }
 
   private static void ways() {
-    of("Terms 3", "WAYS: in how many rows of just that many DEPTHS.");
+    of("Terms 3, promise 18", "WAYS: in how many rows of just that many DEPTHS.");
     due("two", piles("1' 2'").ways(0, 1), 2);
     due("two", piles("1 3 2").ways(0, 0), 2);
     due("one", piles("5 4 3 2 1").ways(0, 0), 1);
@@ -145,7 +145,7 @@ final class TurningBounds extends Bounds {
   }
 
   private static void apart() {
-    of("Terms 3", "how few times the one must be TURNED so that its SIZES, by which is greater, lie as the other one's, "
+    of("Terms 3, promise 19", "how few times the one must be TURNED so that its SIZES, by which is greater, lie as the other one's, "
         + "and (1) FACES are as there, place by place.");
     PlatePiles x = piles("", "", "99'", "1");
     due("none", x.apart(0, 1, 0), 0);
@@ -241,7 +241,7 @@ final class TurningBounds extends Bounds {
       refused("which " + n, y -> y.howMany(5, n, 0), -1);
     }
 
-    of("Terms 3", "(orders, and FACES of 1)");
+    of("Terms 3, promise 21", "(orders, and FACES of 1)");
     int[] five = {1, 4, 12, 35, 48, 20};
     int[] fiveFaced = {1, 5, 20, 80, 280, 680, 1214, 1127, 389, 40, 4};
     for (int fewest = 0; fewest < five.length; fewest++) {
@@ -253,7 +253,7 @@ final class TurningBounds extends Bounds {
   }
 
   private static void could() {
-    of("Terms 3", "can come of one by being TURNED just so many times (each once, by however many rows).");
+    of("Terms 3, promise 22", "can come of one by being TURNED just so many times (each once, by however many rows).");
     int[] three = {1, 3, 5, 6, 6, 6, 6, 6, 6, 6};
     int[] threeFaced = {1, 3, 7, 15, 25, 35, 43, 47, 48, 48};
     int[] five = {1, 5, 17, 52, 100, 120, 120, 120, 120, 120};
@@ -289,7 +289,7 @@ final class TurningBounds extends Bounds {
   }
 
   private static void greedy() {
-    of("Terms 3", "TURNED by its place (from the top, 1 the first), if it isn't on top, then by the place where it belongs (each counts).");
+    of("Terms 3, promise 23", "TURNED by its place (from the top, 1 the first), if it isn't on top, then by the place where it belongs (each counts).");
     due("none", piles("").greedy(0), 0);
     due("one, down", piles("1'").greedy(0), 0);
     due("right", piles("1 2 3 4 5").greedy(0), 0);
@@ -309,7 +309,7 @@ final class TurningBounds extends Bounds {
   }
 
   private static void game() {
-    of("Terms 3", "two by turns TURN it, by 2 at least (for RIGHT) or by any DEPTH (for PROPER),");
+    of("Terms 3, promise 24", "two by turns TURN it, by 2 at least (for RIGHT) or by any DEPTH (for PROPER),");
     PlatePiles two = piles("2 1", "1'", "2' 1'", "1' 2");
     due("by 2", two.game(0, 0, 1), 2);
     due("by 1", two.game(1, 1, 1), 1);
@@ -319,7 +319,7 @@ final class TurningBounds extends Bounds {
     due("not by 1 for right", piles("3 1 2").game(0, 0, 0), 1);
     due("not by 1 for right", piles("3 1 2").game(0, 0, 1), 2);
 
-    of("Terms 3", "but never by the DEPTH by which it was TURNED just ahead of that in the GAME (the first one by any);");
+    of("Terms 3, promise 24", "but never by the DEPTH by which it was TURNED just ahead of that in the GAME (the first one by any);");
     PlatePiles turned = piles("1 2");
     turned.turn(0, 2);
     due("by the depth of a call", turned.game(0, 0, 0), 0);
@@ -336,7 +336,7 @@ final class TurningBounds extends Bounds {
     due("two away", round.game(3, 1, 0), 1);
     due("four away", piles("1' 2'").game(0, 1, 0), 1);
 
-    of("Terms 3", "nobody wins, if both can always put it off, or if it is so already.");
+    of("Terms 3, promise 24", "nobody wins, if both can always put it off, or if it is so already.");
     due("put off", piles("3 1' 2 5 4'").game(0, 1, 0), 2);
     // Of 2 3 1 4 the other one wins behind 2 (3 2 1 4), of 2 1' 3 behind 1 (2' 1' 3).
     due("put off", piles("2 3 1 4").game(0, 0, 0), 2);
@@ -384,7 +384,7 @@ final class TurningBounds extends Bounds {
   // ---- matches ----
 
   private static void match() {
-    of("Terms 3", "for each MAID a PILE that isn't PROPER now, or none, none for two, of which FEWEST to be PROPER is SKILL at most,");
+    of("Terms 3, promise 25", "for each MAID a PILE that isn't PROPER now, or none, none for two, of which FEWEST to be PROPER is SKILL at most,");
     for (int skill = 0; skill <= 9; skill++) {
       due("3 by skill " + skill, matched("maid m " + skill + ";" + pile("p", "2 1")), skill >= 3 ? "0" : "-2");
       due("1 by skill " + skill, matched("maid m " + skill + ";" + pile("p", "1'")), skill >= 1 ? "0" : "-2");
@@ -402,7 +402,7 @@ final class TurningBounds extends Bounds {
     now.turn(0, 1);
     due("not proper now", now.match(0), 0);
 
-    of("Terms 3", "so that as many as may be have one, then so that these FEWEST in sum are least, of several the first by MAIDS "
+    of("Terms 3, promise 25", "so that as many as may be have one, then so that these FEWEST in sum are least, of several the first by MAIDS "
         + "(PILES by numbers, none is last).");
     String wrong = pile("p", "2 1") + pile("q", "1'");
     due("both, though q by m is less", matched("maid m 3;maid n 1;" + wrong), "0 1");
@@ -509,14 +509,14 @@ final class TurningBounds extends Bounds {
       refused("what " + what, y -> y.holds(1, what), -1);
     }
 
-    of("Terms 3", "how likely n TURNS chip nothing by chip told, as a fraction.");
+    of("Terms 3, promise 26", "how likely n TURNS chip nothing by chip told, as a fraction.");
     due("whatever law", Check.of("chip 50;law crack 0;").holds(1, 1), 2);
     due("whatever law", Check.of("law crack 50;").holds(1, 1), 1);
   }
 
   /** All piles up to four by FACES, those of five by orders, against the model. */
   private static void everyPile() {
-    of("Terms 3", "any DEPTH 1 .. HIGH each time,");
+    of("Terms 3, promises 16, 17, 18, 23, 24", "any DEPTH 1 .. HIGH each time,");
     for (int high = 0; high <= 5; high++) {
       List<String> rows = new ArrayList<>();
       allRows("", high, rows);
@@ -554,7 +554,7 @@ final class TurningBounds extends Bounds {
 
   /** What is only asked changes nothing. */
   private static void onlyAsked() {
-    of("Terms 3", "All that follows goes by TURNED alone,");
+    of("Terms 3, promises 16 to 26", "All that follows goes by TURNED alone,");
     refused("fewest", y -> y.fewest(0, 1), 4);
     refused("first", y -> y.first(0, 0), 3);
     refused("ways", y -> y.ways(0, 0), 1);

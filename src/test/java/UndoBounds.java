@@ -12,6 +12,7 @@ final class UndoBounds extends Bounds {
     keeping();
     goingBack();
     counts();
+    manyCalls();
   }
 
   private static List<String> lying(PlatePiles x) {
@@ -32,7 +33,7 @@ final class UndoBounds extends Bounds {
   // ---- Terms 4 ----
 
   private static void latestFirst() {
-    of("Terms 4", "Turning, moving, chipping by call (PILES, FACES, what is CHIPPED, how often TURNED) can be undone, the latest first");
+    of("Terms 4, promise 34", "Turning, moving, chipping by call (PILES, FACES, what is CHIPPED, how often TURNED) can be undone, the latest first");
     PlatePiles x = piles("1 2' 3 4 5", "9'", "", "7 8");
     List<List<String>> before = new ArrayList<>();
     for (int i = 0; i < 9; i++) {
@@ -75,7 +76,7 @@ final class UndoBounds extends Bounds {
   }
 
   private static void twentyAtMost() {
-    of("Terms 4", "(20 at most),");
+    of("Terms 4, promise 34", "(20 at most),");
     for (int deeds : new int[] {0, 1, 19, 20, 21, 22, 39, 40, 41, 60}) {
       PlatePiles x = piles("1 2 3 4 5", "6");
       List<List<String>> before = new ArrayList<>();
@@ -117,7 +118,7 @@ final class UndoBounds extends Bounds {
   }
 
   private static void noMinuteSince() {
-    of("Terms 4", "if no MINUTE went by since.");
+    of("Terms 4, promise 34", "if no MINUTE went by since.");
     PlatePiles x = piles("1 2 3");
     x.turn(0, 2);
     x.go(0);
@@ -179,7 +180,7 @@ final class UndoBounds extends Bounds {
   }
 
   private static void image() {
-    of("Terms 4", "An IMAGE keeps all but what was SEEN.");
+    of("Terms 4, promises 35, 36", "An IMAGE keeps all but what was SEEN.");
     String text = "maid m 1;maid n 2;" + pile("p", "1 2 3 4 5") + pile("q", "9 8") + "turn m p 5 0;turn n p 3 1;turn m q 5 1;turn n q 2 2;"
         + "turn m p 4 3;turn n p 2 4;turn m q 1 5;turn n p 5 6;law crack 50;law effort 7;seed 5;";
     PlatePiles x = Check.of(text);
@@ -348,5 +349,22 @@ final class UndoBounds extends Bounds {
       due("what " + what, full.count(what), -1);
       refused("what " + what, y -> y.count(what), -1);
     }
+  }
+
+  private static void manyCalls() {
+    of("What it is", "An object is used for at most 512 calls after it has been made;");
+    PlatePiles x = new PlatePiles();
+    int calls = Check.ints(Check.bytes(BUSY)).length / 5 + 1;
+    Check.tell(x, BUSY);
+    boolean down = false;
+    for (; calls < 508; calls++) {
+      due("call " + (calls + 1), x.turn(0, 1), 2);
+      down = !down;
+    }
+    // 3 1' 2 is first turned by 1.
+    due("call 509", x.fewest(0, 1), down ? 3 : 4);
+    due("call 510", x.keep(), 0);
+    due("call 511", x.go(200), 200);
+    due("call 512", x.back(), 0);
   }
 }
