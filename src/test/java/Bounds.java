@@ -3,11 +3,11 @@ import java.nio.charset.StandardCharsets;
 import java.nio.file.Files;
 import java.nio.file.Path;
 import java.util.ArrayList;
+import java.util.BitSet;
 import java.util.HashMap;
 import java.util.List;
 import java.util.Map;
-import java.util.Set;
-import java.util.TreeSet;
+import java.util.TreeMap;
 import java.util.function.Supplier;
 
 /**
@@ -21,7 +21,8 @@ abstract class Bounds {
   static final long NO_LAW = Long.MIN_VALUE;
 
   private static final Map<String, String> DOCUMENT = document();
-  private static final Set<String> TOLD = new TreeSet<>();
+  /** Of each part, how far each of its signs has been said by a test. */
+  private static final Map<String, BitSet> TOLD = new TreeMap<>();
   private static String where = "";
 
   /** Any call. */
@@ -64,14 +65,35 @@ abstract class Bounds {
   static void of(String ofWhat, String words) {
     String section = ofWhat.replaceAll(",.*", "");
     where = ofWhat + ", \"" + words + "\": ";
-    TOLD.add(section);
-    CHECK.due(where + "the document says so there", DOCUMENT.getOrDefault(section, "").contains(words), true);
+    String all = DOCUMENT.getOrDefault(section, "");
+    CHECK.due(where + "the document says so there", all.contains(words), true);
+    BitSet told = TOLD.computeIfAbsent(section, any -> new BitSet());
+    for (int at = all.indexOf(words); at >= 0; at = all.indexOf(words, at + 1)) {
+      told.set(at, at + words.length());
+    }
   }
 
-  static void everySectionIsTold() {
-    for (String section : DOCUMENT.keySet()) {
-      CHECK.due(section + " has a test", TOLD.contains(section), true);
+  /** Every word of the Terms and of the promises has been said by a test that asks for it; the face is FaceTest's. */
+  static void everyWordIsTold() {
+    for (Map.Entry<String, String> section : DOCUMENT.entrySet()) {
+      BitSet told = TOLD.getOrDefault(section.getKey(), new BitSet());
+      CHECK.due(section.getKey() + " has a test", !told.isEmpty(), true);
+      if (section.getKey().matches("(Terms|Promise) .*")) {
+        CHECK.due(section.getKey() + " has no test of '" + untold(section.getValue(), told) + "', words", untold(section.getValue(), told).length(), 0);
+      }
     }
+  }
+
+  /** What no test said, but for headings, the signs that set a block apart, and what is no word. */
+  private static String untold(String words, BitSet told) {
+    StringBuilder made = new StringBuilder(words);
+    for (int i = 0; i < made.length(); i++) {
+      if (told.get(i)) {
+        made.setCharAt(i, '|');
+      }
+    }
+    return made.toString().replaceFirst("^## Promise [0-9]+: \\w+ `[^`]*`:", "").replaceFirst("^## Promise 1: A new object `PlatePiles\\(\\)`:", "")
+        .replaceFirst("^(## Terms|==== [0-9]\\.)", "").replace("```text", "").replaceAll("[^A-Za-z0-9]+", " ").trim();
   }
 
   // ---- answers ----

@@ -1,4 +1,4 @@
-/** Each sentence of the document that names a boundary case, by itself: see Bounds. */
+/** Each sentence of the document, by itself: see Bounds. Those that name a boundary case, then those that the others leave. */
 public final class BoundsTest {
   public static void main(String[] args) {
     TextBounds.all();
@@ -6,7 +6,8 @@ public final class BoundsTest {
     TurningBounds.all();
     SeenBounds.all();
     UndoBounds.all();
-    Bounds.everySectionIsTold();
+    PlainSentences.all();
+    Bounds.everyWordIsTold();
     Bounds.CHECK.end();
   }
 }

@@ -25,6 +25,7 @@ public final class FaceTest {
 
   public static void main(String[] args) throws Exception {
     face();
+    faceAsTold();
     classesInside();
     source();
     CHECK.end();
@@ -69,6 +70,24 @@ public final class FaceTest {
         CHECK.due(method + " has seven parameters at most", method.getParameterCount() <= 7, true);
       }
     }
+  }
+
+  /** The face is the document's: its block of code, and the head of each promise. */
+  private static void faceAsTold() throws Exception {
+    String document = Files.readString(Path.of("../shared/DOC.md"));
+    String block = document.substring(document.indexOf("```java"), document.indexOf("## Terms"));
+    Set<String> told = new TreeSet<>();
+    int promises = 0;
+    for (String line : block.split("\n")) {
+      if (line.matches(" *public (int|long|boolean) .*\\).*;")) {
+        String head = line.trim().replaceAll("^public |;$", "");
+        told.add(head.replaceAll("\\) throws.*", ")").replaceAll(" \\w+(?=[,)])", "").replace(", ", ","));
+        promises += document.contains("\n`" + head + "`: ") ? 1 : 0;
+      }
+    }
+    CHECK.due("the document's face is " + told, told.equals(new TreeSet<>(Arrays.asList(FACE))), true);
+    CHECK.due("each call has a promise", promises, FACE.length);
+    CHECK.due("NONE", PlatePiles.class.getField("NONE").getInt(null), -1);
   }
 
   private static List<Class<?>> allClasses() {

@@ -239,7 +239,7 @@ final class SculleryBounds extends Bounds {
   }
 
   private static void namesOfLaws() {
-    of("Terms 2, promise 9", "size: SIZE of the PLATE at that DEPTH (of crack of the one now on top; 0, if there is none so deep);");
+    of("Terms 2, promise 9", "NAMES: size: SIZE of the PLATE at that DEPTH (of crack of the one now on top; 0, if there is none so deep);");
     PlatePiles x = Check.of("maid m 1;pile p;pile q;" + "plate p 9 0;plate p 4 0;law effort size;law crack size;law heed size;");
     int[] sizes = {9, 4, 0, 0, 0};
     for (int depth = 1; depth <= 5; depth++) {
